@@ -8,6 +8,7 @@ public final class LineChoice {
     public static final int NONE = -1;
 
     private static final int NOT_SO = -2;
+    private static final int GREATEST = 0x7FFFFFFF;
     private static final int FAULT = -21;
     private static final int MOST_STOPS = 10;
     private static final int MOST_LINES = 12;
@@ -197,7 +198,7 @@ public final class LineChoice {
 
     public int rounds() {
         net.findCosts();
-        told.putOne(Integer.bitCount(net.stopsWithin(Integer.MAX_VALUE)));
+        told.putOne(Integer.bitCount(net.stopsWithin(GREATEST)));
         return net.rounds;
     }
 
@@ -646,7 +647,7 @@ public final class LineChoice {
             return NOT_SO;
         }
         long sum = 0;
-        int least = Integer.MAX_VALUE;
+        int least = GREATEST;
         int greatest = 0;
         for (int i = 0; i < n; i++) {
             int points = ride.takes(net, stop, POINTS_OF_MINUTE * i);
@@ -687,7 +688,7 @@ public final class LineChoice {
                 return net.linesInNoSet();
             case 12:
                 net.findCosts();
-                return net.stopsWithin(Integer.MAX_VALUE);
+                return net.stopsWithin(GREATEST);
             default:
                 return NONE;
         }

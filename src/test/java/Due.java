@@ -90,4 +90,27 @@ final class Due {
             return false;
         }
     }
+
+    /** All that is told of an object but THE TEXT, as one text (it leaves another ROW behind). */
+    static String state(LineChoice x) {
+        StringJoiner all = new StringJoiner(" ");
+        for (int what = 0; what <= 8; what++) {
+            all.add(String.valueOf(x.count(what)));
+        }
+        for (int i = 0; i < 10; i++) {
+            int riders = x.riders(i, 0);
+            x.riders(i, riders);
+            all.add("r" + riders);
+        }
+        for (int i = 0; i < x.count(0); i++) {
+            all.add("line");
+            for (int what = 0; what <= 4; what++) {
+                all.add(String.valueOf(x.line(i, what)));
+            }
+            for (int p = 0; p < x.line(i, 1); p++) {
+                all.add(x.stop(i, p) + row(x) + x.averaged(i, p));
+            }
+        }
+        return all.toString();
+    }
 }
