@@ -1002,11 +1002,9 @@ public final class LineChoice {
             offers++;
         }
 
-        /** Takes of the offers those that are worth it: the COST that follows. */
+        /** Takes of the offers those that are worth it (none is TAKEN before): the COST that follows. */
         int choose(long waitingWeight, Line[] all) {
             long n = waitingWeight;
-            taken = 0;
-            often = 0;
             while (taken < offers && (taken == 0 || points[taken] < parts(n, often))) {
                 int frequency = all[lines[taken]].frequency;
                 n += (long) frequency * points[taken];
@@ -1400,7 +1398,6 @@ public final class LineChoice {
         private void begin() {
             at = 0;
             read = 0;
-            fault = 0;
         }
 
         private boolean isNext(char sign) {

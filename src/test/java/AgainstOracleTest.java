@@ -189,7 +189,8 @@ public final class AgainstOracleTest {
     private String spoiled(String s) {
         StringBuilder t = new StringBuilder(s);
         for (int i = range(1, 3); i > 0; i--) {
-            char sign = random.nextInt(6) == 0 ? (char) random.nextInt(256) : "0123456789--::==;; ".charAt(random.nextInt(19));
+            char usual = "0123456789--::==;; ".charAt(random.nextInt(19));
+            char sign = random.nextInt(6) == 0 ? (char) random.nextInt(256) : usual;
             int at = random.nextInt(t.length() + 1);
             int kind = random.nextInt(4);
             if (kind == 0 && at < t.length()) {

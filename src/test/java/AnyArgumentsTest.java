@@ -11,17 +11,17 @@ import java.util.Set;
 
 /**
  * Calls with any arguments in any state: none throws but row() (and that one NoSuchElementException); calls that ask,
- * and answers below 0, change nothing; the ROW stays with each answer below 0. And what a call makes is next to nothing.
+ * and answers below 0, change nothing; the ROW stays with each answer below 0. What a call makes is next to nothing.
  */
 public final class AnyArgumentsTest {
     private static final Due DUE = new Due("AnyArgumentsTest");
     private static final int[] EDGES = {
-        Integer.MIN_VALUE, Integer.MIN_VALUE + 1, -101, -60, -59, -2, -1, 0, 1, 2, 3, 4, 5, 6, 7, 8, 9, 10, 11, 12, 13, 49,
-        50, 51, 59, 60, 61, 99, 100, 101, 199, 200, 201, 999, 1000, 9999, 10000, 99999, 100000, 100001,
+        Integer.MIN_VALUE, Integer.MIN_VALUE + 1, -101, -60, -59, -2, -1, 0, 1, 2, 3, 4, 5, 6, 7, 8, 9, 10, 11, 12, 13,
+        49, 50, 51, 59, 60, 61, 99, 100, 101, 199, 200, 201, 999, 1000, 9999, 10000, 99999, 100000, 100001,
         Integer.MAX_VALUE - 1, Integer.MAX_VALUE,
     };
-    private static final Set<String> CHANGING = Set.of("sign", "end", "net", "adds", "drops", "waiting", "goal", "riders",
-            "out", "closes", "often", "crowd", "seats", "settles", "balances", "clears", "offset");
+    private static final Set<String> CHANGING = Set.of("sign", "end", "net", "adds", "drops", "waiting", "goal",
+            "riders", "out", "closes", "often", "crowd", "seats", "settles", "balances", "clears", "offset");
     private static final String[] NETS = {
         "", "5:0-1-1", "6:0-5-1-4-2;12=1-3-2;2:0-20-2", CostsTest.CHAIN,
         "60=0-1-1-1-2-1-3-1-4-1-5-1-6-1-7;1=7-99-8-99-9-99-0-99-2-99-4-99-6-99-1;9=8-5-9;8=9-6-8;7=0-9-9;3=3-3-4",

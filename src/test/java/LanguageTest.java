@@ -58,7 +58,8 @@ public final class LanguageTest {
 
     /** Methods of at most sixty lines and seven parameters, by their braces and indents. */
     private static void methods(List<String> lines) {
-        Pattern head = Pattern.compile("^( ++)(?!if|for|while|switch|else|return)[\\w\\[\\] ]+\\(([^()]*)\\)[^;=]*\\{$");
+        String noMethod = "(?!if|for|while|switch|else|return)";
+        Pattern head = Pattern.compile("^( ++)" + noMethod + "[\\w\\[\\] ]+\\(([^()]*)\\)[^;=]*\\{$");
         for (int i = 0; i < lines.size(); i++) {
             Matcher m = head.matcher(lines.get(i));
             if (m.matches()) {
