@@ -344,6 +344,13 @@ public final class CostsEdgesTest {
         E.is("one more, so it rides on", x.boards(0), 1000);
     }
 
+    static void promise22OfANewGoal() {
+        LineChoice x = Due.with("10=0-5-1", 1);
+        E.is("to 1", x.boards(0) + " " + x.boards(1), "1000 0");
+        x.goal(0);
+        E.is("to 0", x.boards(0) + " " + x.boards(1), "0 1000");
+    }
+
     // ---- 23
 
     static void promise23NotTheLastOne() {

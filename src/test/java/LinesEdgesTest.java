@@ -398,6 +398,44 @@ public final class LinesEdgesTest {
         }
     }
 
+    static void promise04NothingIsOutOrClosed() {
+        LineChoice x = Edges.twelve();
+        for (int i = 0; i < 10; i++) {
+            x.closes(i, true);
+            x.out(i, true);
+        }
+        E.is("read", Due.net(x, times(12, ONE)), 12);
+        E.is("closed", x.count(7), 0);
+        E.is("out", x.count(8), 0);
+    }
+
+    /** All that can be set of LINES is set, then they are told anew: three times, as rows may be used again. */
+    static void promise04EachTimeAnew() {
+        LineChoice x = Due.with("10=0-5-1-6-2", 2, 100);
+        x.crowd(500);
+        for (int i = 0; i < 3; i++) {
+            setAll(x);
+            E.is("read", Due.net(x, "10=0-5-1-6-2"), 2);
+            E.is("as new", Due.state(x), "2 50 2 100 500 0 4 0 0 r100 r0 r0 r0 r0 r0 r0 r0 r0 r0"
+                    + " line 10 3 50 0 0 0[5, 0]0 1[6, 0]0 2[]-1 line 10 3 50 0 0 2[6, 0]0 1[5, 0]0 0[]-1");
+        }
+    }
+
+    /** SEATS, OFFSET, OUT, EXTRAS of every LINE. */
+    private static void setAll(LineChoice x) {
+        x.goal(0);
+        x.riders(2, 100);
+        x.settles(1);
+        x.goal(2);
+        x.riders(2, 0);
+        x.settles(1);
+        for (int line = 0; line < x.count(0); line++) {
+            x.seats(line, 7);
+            x.offset(line, 8);
+            x.out(line, true);
+        }
+    }
+
     static void promise04TheRowStays() {
         LineChoice x = Edges.busy();
         x.net();
@@ -484,6 +522,35 @@ public final class LinesEdgesTest {
         x.drops(6);
         x.drops(5);
         E.is("all else", Due.state(x), before);
+    }
+
+    static void promise05InTheRoomOfOneThatWent() {
+        LineChoice x = Due.with("10=0-5-1-6-2;10=0-5-1-6-2", 2, 100);
+        x.crowd(500);
+        for (int i = 0; i < 3; i++) {
+            setAll(x);
+            x.drops(1);
+            x.drops(0);
+            E.is("lines", Due.adds(x, "9=3-8-4-9-5"), 4);
+            for (int line = 2; line < 4; line++) {
+                E.is("seats", x.line(line, 2), 50);
+                E.is("offset", x.line(line, 3), 0);
+                E.is("out", x.line(line, 4), 0);
+                E.is("averaged 0", x.averaged(line, 0) + Due.row(x), "0[0]");
+                E.is("averaged 1", x.averaged(line, 1) + Due.row(x), "0[0]");
+            }
+            E.is("stops", x.stop(2, 0) + " " + x.stop(2, 2) + " " + x.stop(3, 0) + " " + x.stop(3, 2), "3 5 5 3");
+        }
+    }
+
+    static void promise05OneLineEachTime() {
+        LineChoice x = new LineChoice();
+        for (int i = 0; i < 12; i++) {
+            E.is("line " + i, Due.adds(x, (i + 1) + ":0-1-1"), i + 1);
+        }
+        for (int i = 0; i < 12; i++) {
+            E.is("frequency of " + i, x.line(i, 0), i + 1);
+        }
     }
 
     static void promise05TheRowStays() {

@@ -58,6 +58,14 @@ public final class LoadsEdgesTest {
         E.is("the last step", x.load(0, 6), 69993);
     }
 
+    static void promise26FromItsPlaceOn() {
+        // 1 is the second STOP of line 0 and the third of line 1, which is the faster one.
+        LineChoice x = Due.with("10:0-5-1-7-2;10:5-1-4-1-1-4-2", 2, 0, 41);
+        x.waiting(100);
+        E.is("line 0", x.load(0, 0) + " " + x.load(0, 1), "0 20");
+        E.is("line 1", x.load(1, 0) + " " + x.load(1, 1) + " " + x.load(1, 2), "0 0 21");
+    }
+
     static void promise26NobodyBoardsOneThatIsOut() {
         LineChoice x = Due.with(THREE, 1, 9);
         x.out(0, true);
@@ -218,6 +226,15 @@ public final class LoadsEdgesTest {
         E.is("one", Due.with("10:0-5-1;20:1-5-2", 2, 1).changes(), 1);
         E.is("nobody", Due.with("10:0-5-1;20:1-5-2", 2, 0, 5).changes(), 0);
         E.tellsNoRow(LineChoice::changes);
+    }
+
+    static void promise32AtTheFirstAndTheLastStop() {
+        for (int stop : new int[] {0, 9}) {
+            LineChoice x = Due.with("10:5-5-" + stop + ";20:" + stop + "-5-6", 6, 0, 0, 0, 0, 0, 3);
+            E.is("at " + stop, x.changes(), 3);
+            E.is("again", x.changes(), 3);
+            E.tells("who pass", x, x.passes(stop), "3 [3]");
+        }
     }
 
     static void promise32TheSameOneAnew() {

@@ -217,6 +217,29 @@ public final class TimetableEdgesTest {
         }
     }
 
+    static void promise53InNoSet() {
+        LineChoice x = Due.with("10:0-5-1;10:9-5-1;10:1-5-2", 1);
+        E.is("nothing asked before", x.count(11), 4);
+        x.goal(2);
+        E.is("to 2", x.count(11), 0);
+        x.goal(0);
+        E.is("to 0", x.count(11), 7);
+        x.goal(1);
+        x.out(0, true);
+        E.is("one that is out", x.count(11), 5);
+    }
+
+    static void promise53WithACost() {
+        LineChoice x = Due.with("10:0-5-1;10:9-5-1;10:1-5-2", 1);
+        E.is("nothing asked before", x.count(12), 515);
+        x.goal(2);
+        E.is("to 2", x.count(12), 519);
+        x.goal(0);
+        E.is("to 0", x.count(12), 1);
+        x.closes(0, true);
+        E.is("to 0, closed", x.count(12), 0);
+    }
+
     static void promise53MostOfAll() {
         LineChoice x = Due.with("60:0-1-1-1-2-1-3-1-4-1-5-1-6-1-7" + ";9:8-2-7".repeat(11), 7);
         for (int i = 0; i < 10; i++) {

@@ -222,6 +222,28 @@ public final class WhatIfEdgesTest {
         E.tells("extras of both", x, x.skips(0, 1), 9999 * cost + " [0, 0]");
     }
 
+    static void promise45UnlikeSteps() {
+        // 0, 1, 2, 3, 4 by 1, 2, 3, 4 minutes, EXTRAS 1, 1, 11, 111: COSTS 1424, 1323, 1122, 811.
+        String[] want = {"937440 [0, 0]", "825240 [-112200, 100]", "126440 [-811000, 1000]"};
+        for (int p = 1; p <= 3; p++) {
+            LineChoice x = Due.with("10:0-1-1-2-2-3-3-4-4", 4, 10, 0, 100, 1000);
+            x.crowd(50);
+            x.settles(1);
+            E.tells("without " + p, x, x.skips(0, p), want[p - 1]);
+        }
+    }
+
+    static void promise45BehindTheOneThatIsSkipped() {
+        // Those of 3 ride 7 minutes to 6, whichever of 1, 2 is skipped; 5 is where the LINE ends.
+        LineChoice x = Due.with("10:0-1-1-2-2-3-3-7-6-9-5", 6, 10, 0, 0, 10);
+        long cost = 300 + 1300;
+        long other = 300 + 700;
+        E.tells("1", x, x.skips(0, 1), 10 * (cost + other) + " [0, 0]");
+        E.tells("2", x, x.skips(0, 2), 10 * (cost + other) + " [0, 0]");
+        E.tells("3", x, x.skips(0, 3), 10 * cost + " [" + -10 * other + ", 10]");
+        E.tells("the goal", x, x.skips(0, 4), "0 [" + -10 * (cost + other) + ", 20]");
+    }
+
     static void promise45EachStopOfEight() {
         String before = Edges.all(Edges.twelve());
         for (int p = 1; p <= 6; p++) {
