@@ -436,6 +436,32 @@ public final class LinesEdgesTest {
         }
     }
 
+    static void promise04AShorterLineHasNothingOfALongerOne() {
+        LineChoice x = Due.with("10:0-5-1-6-2", 2, 100);
+        x.crowd(500);
+        E.is("gap of two steps", x.settles(1), 200);
+        x.goal(1);
+        for (int i = 0; i < 4; i++) {
+            Due.net(x, "10:0-5-1");
+            E.is("gap of one step", x.settles(1), 100);
+            E.is("no further one", x.averaged(0, 1), -1);
+            E.is("comes", x.comes(0, 1, 0), 600);
+        }
+    }
+
+    static void promise05AShorterLineHasNothingOfALongerOne() {
+        LineChoice x = Due.with("10:0-5-1-6-2", 2, 100);
+        x.settles(1);
+        x.drops(0);
+        x.goal(1);
+        for (int i = 0; i < 4; i++) {
+            x.clears();
+            Due.adds(x, "10:0-5-1");
+            E.is("gap of one step", x.settles(1), 100);
+            x.drops(0);
+        }
+    }
+
     static void promise04TheRowStays() {
         LineChoice x = Edges.busy();
         x.net();
